@@ -1074,44 +1074,27 @@ public final class SalePart {
                 end++;
             }
             start = end;
-            if (end >= length) {
-                token = END;
-                return;
-            }
-            token = kindOf(text[end]);
             number = 0;
             digits = 0;
-            if (token != WORD && token != NUMBER) {
-                end++;
-            }
-            while (token == WORD && end < length && isLetter(text[end])) {
-                end++;
-            }
-            while (token == NUMBER && end < length && isDigit(text[end])) {
-                digits++;
-                if (digits <= MOST_DIGITS) {
-                    number = number * 10 + text[end] - '0';
+            if (end >= length) {
+                token = END;
+            } else if (text[end] >= 'a' && text[end] <= 'z') {
+                token = WORD;
+                while (end < length && text[end] >= 'a' && text[end] <= 'z') {
+                    end++;
                 }
+            } else if (text[end] >= '0' && text[end] <= '9') {
+                token = NUMBER;
+                while (end < length && text[end] >= '0' && text[end] <= '9') {
+                    // More digits are too many anyway.
+                    number = digits < MOST_DIGITS ? number * 10 + text[end] - '0' : number;
+                    digits++;
+                    end++;
+                }
+            } else {
+                token = SIGNS.indexOf((char) text[end]) >= 0 ? text[end] : NO_TOKEN;
                 end++;
             }
-        }
-
-        private static int kindOf(int first) {
-            if (isLetter(first)) {
-                return WORD;
-            }
-            if (isDigit(first)) {
-                return NUMBER;
-            }
-            return SIGNS.indexOf((char) first) >= 0 ? first : NO_TOKEN;
-        }
-
-        private static boolean isLetter(int sign) {
-            return sign >= 'a' && sign <= 'z';
-        }
-
-        private static boolean isDigit(int sign) {
-            return sign >= '0' && sign <= '9';
         }
 
         /** Which of some names, a blank between each two, the TOKEN is; NONE: none of them. */
@@ -1482,12 +1465,9 @@ public final class SalePart {
                 int fee = books.societyAt(society[person]).fee;
                 return goes[person] - (int) ((long) goes[person] * fee / 1000);
             }
-            return isClaimedInTime(person, law, number) ? goes[person] : 0;
-        }
-
-        private boolean isClaimedInTime(int person, Law law, int number) {
             Fact claim = books.claimAt(books.claimOf(person, number));
-            return claim.isKnownOn(evening) && claim.told - sold.told <= law.claimEvenings;
+            boolean inTime = claim.isKnownOn(evening) && claim.told - sold.told <= law.claimEvenings;
+            return inTime ? goes[person] : 0;
         }
     }
 

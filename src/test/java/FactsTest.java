@@ -16,6 +16,7 @@ public final class FactsTest {
         mandates();
         back();
         claims();
+        onlySales();
         atMost();
         Due.end();
     }
@@ -201,6 +202,21 @@ public final class FactsTest {
         desk.back(false, 1);
         Due.yes("claim on a SALE TAKEN BACK", desk.claim(1, 1));
         Due.same("CLAIMS", 3, desk.count(7));
+    }
+
+    private static void onlySales() {
+        SalePart desk = desk();
+        desk.death(0, 0, 0);
+        desk.heir(0, 1, 1, 1);
+        desk.fact(3, 0, 0, 1, 0);
+        desk.fact(4, 0, 0, 1, 0);
+        desk.fact(5, 0, 0, 0, 0);
+        for (int number = 0; number < 5; number++) {
+            int fact = number;
+            Due.isMissing("claim on FACT " + fact, () -> desk.claim(0, fact) ? 1 : 0);
+            Due.isMissing("sold of FACT " + fact, () -> desk.sold(fact, 0, 0));
+            Due.isMissing("has of FACT " + fact, () -> desk.has(fact, 0, 0, 0));
+        }
     }
 
     private static void atMost() {
