@@ -669,7 +669,7 @@ public final class SalePart {
         }
 
         boolean isHandOf(int work) {
-            return (kind == SALE || kind == GIFT || kind == SEEN) && what == work;
+            return what == work && (kind == SALE || kind == GIFT || kind == SEEN);
         }
 
         boolean isSaleOf(int year) {
@@ -1501,16 +1501,21 @@ public final class SalePart {
 
         private void addOwed(int collector) {
             for (int p = 0; p < MOST_PERSONS; p++) {
-                int to = account.society[p];
-                if (isWithin(to, 0, MOST_SOCIETIES - 1) && to != collector) {
-                    owed[collector * MOST_SOCIETIES + to] += account.goes[p];
+                int pair = pairOf(collector, account.society[p]);
+                if (pair != NONE && account.society[p] != collector) {
+                    owed[pair] += account.goes[p];
                 }
             }
         }
 
         long owed(int one, int other) {
+            int pair = pairOf(one, other);
+            return pair == NONE ? 0 : owed[pair];
+        }
+
+        private static int pairOf(int one, int other) {
             boolean there = isWithin(one, 0, MOST_SOCIETIES - 1) && isWithin(other, 0, MOST_SOCIETIES - 1);
-            return there ? owed[one * MOST_SOCIETIES + other] : 0;
+            return there ? one * MOST_SOCIETIES + other : NONE;
         }
 
         long netOf(int one) {

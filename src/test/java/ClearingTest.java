@@ -9,6 +9,8 @@ public final class ClearingTest {
         owes();
         withoutCollector();
         payments(1, new int[][] {{0, 1, 50}});
+        payments(1, new int[][] {{1, 2, 50}});
+        payments(2, new int[][] {{1, 2, 50}, {3, 4, 60}});
         payments(0, new int[][] {{0, 1, 50}, {1, 0, 50}});
         payments(0, new int[][] {{0, 1, 50}, {1, 2, 50}, {2, 0, 50}});
         payments(1, new int[][] {{0, 1, 50}, {1, 2, 50}});
@@ -148,8 +150,8 @@ public final class ClearingTest {
         }
         desk.work(0, 1, 1, 0, 1, 1);
         Texts.law(desk, 0, "rest 10000;", 0);
-        desk.fact(5, 0, 0, 0, 0);
         desk.sale(0, 1, 2, 0, 0, 10, 0);
+        desk.fact(5, 0, 0, 0, 0);
         Due.same("it GETS by MANDATE", 10, desk.gets(0, 0, 0));
         Due.same("nothing is owed", 0, desk.net(0, 0, 0));
         Due.same("no payments", 0, desk.payments(0, 0));

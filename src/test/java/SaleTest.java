@@ -20,6 +20,7 @@ public final class SaleTest {
         spans();
         agreed();
         goesOn();
+        goesOnWhole();
         goesOnAtOnce();
         eightRounds();
         circle();
@@ -104,6 +105,8 @@ public final class SaleTest {
         part(51, 1050, text);
         part(90, 3000, text);
         part(110, 5000, text);
+        part(0, 5, "step 10 1; step 20 10000; rest 10000;");
+        part(0, 10, "step 10 1; step 20 10000; rest 10000;");
         // Parts of a coin from two steps come to one: 999 * 10 + 999 * 10.
         part(1, 1998, "step 999 5; step 1998 6;");
         part(90, 5000, "step 1000 500; step 3000 200;");
@@ -340,6 +343,31 @@ public final class SaleTest {
         Due.same("HELD as known ahead", 17, desk.sold(0, 3, 1));
         desk.heir(0, 1, 1, 3);
         Due.same("two parts of one HEIR, each cut down", 66, desk.has(0, 1, 2, 2));
+    }
+
+    /** One coin, and the last PERSON there may be. */
+    private static void goesOnWhole() {
+        SalePart desk = desk();
+        for (int i = 10; i < 30; i++) {
+            desk.person(0, 0);
+        }
+        desk.heir(29, 0, 1, 1);
+        desk.heir(0, 28, 1, 1);
+        desk.heir(28, 29, 1, 1);
+        desk.work(29, 1, 1, 0, 1, 1);
+        Texts.law(desk, 0, "rest 10000;", 0);
+        desk.sale(1, 1, 2, 1000, 0, 1, 0);
+        desk.death(29, 1, 1);
+        Due.same("the only coin goes on", 1, desk.has(3, 0, 2, 0));
+        Due.same("and not to who is DEAD", 0, desk.has(3, 29, 2, 0));
+        desk.back(false, 4);
+        desk.sale(0, 1, 2, 1000, 0, 1, 0);
+        desk.death(0, 1, 1);
+        desk.death(28, 1, 1);
+        Due.same("the only coin goes on twice", 1, desk.has(5, 29, 2, 0));
+        Due.same("nobody between has it", 0, desk.has(5, 28, 2, 0));
+        desk.claim(29, 5);
+        Due.same("nothing is HELD", 0, desk.sold(5, 3, 0));
     }
 
     /** What comes to one who is DEAD in a round goes on in the next one. */

@@ -11,6 +11,7 @@ public final class TextTest {
         tapeOfLaws();
         misplaced();
         tooMuch();
+        forgotten();
         tooDeep();
         noValues();
         noLands();
@@ -181,6 +182,31 @@ public final class TextTest {
         faulty(1, 112, sixteen + ";");
     }
 
+    /** Nothing of a text with a FAULT stays for the next one. */
+    private static void forgotten() {
+        SalePart desk = desk();
+        desk.work(0, 1, 1, 0, 1, 1);
+        desk.person(1, 0);
+        desk.work(4, 1, 1, 0, 1, 1);
+        desk.sale(0, 1, 2, 1000, 0, 1000, 0);
+        desk.sale(1, 1, 2, 1000, 0, 1000, 0);
+        desk.death(0, 1, 1);
+        desk.claim(0, 0);
+        Due.same("a FAULT at the end", -2, Texts.law(desk, 0,
+                "due 0; step 5 5; rest 9; least 9999; most 3; years 1; claim 0; agrees 1; x", 0));
+        Due.same("an empty law", 0, desk.law(0, 0, 0));
+        Due.same("it COUNTS", 1, desk.sold(0, 1, 0));
+        Due.same("nothing by 'rest'", 0, desk.sold(0, 2, 0));
+        Due.same("70 years", 1, desk.has(0, 0, 1, 0));
+        Due.same("the other LAND doesn't agree", 0, desk.has(1, 4, 1, 0));
+        Texts.law(desk, 0, "step 5 5; rest 9; most 1; least 9999; x", 0);
+        Due.same("an attempt", 0, Texts.attempt(desk, 0, "rest 10000;", 0));
+        Due.same("more by it alone", 1000, desk.more(0));
+        Texts.law(desk, 0, "step 500 5; x", 0);
+        Due.same("a lower 'step'", 1, Texts.law(desk, 0, "step 400 10000; rest 1;", 0));
+        Due.same("the 'step' alone", 400, desk.sold(0, 2, 0));
+    }
+
     /** Parentheses: what stands in five is within five EXPRS. */
     private static void tooDeep() {
         good("due (((((1)))));");
@@ -205,6 +231,8 @@ public final class TextTest {
         faulty(3, 5, "due (rest);");
         faulty(3, 4, "due prices;");
         faulty(3, 4, "due pric;");
+        faulty(3, 4, "due a;");
+        faulty(3, 4, "due z;");
         faulty(3, 9, "due 1 or frog 123456789;");
     }
 
@@ -251,6 +279,9 @@ public final class TextTest {
             holds(false, "not " + value);
             holds(true, "not (" + value + ") = 0");
         }
+        holds(false, "0 * 5");
+        holds(false, "2 * 3 = 7");
+        holds(false, "not 12 / 5 = 2");
         holds(true, "5");
         holds(false, "0");
         holds(true, "0-5");
@@ -288,7 +319,7 @@ public final class TextTest {
         Due.same("without 'due', the ARTIST sells", 0, desk.sold(1, 1, 0));
         Texts.law(desk, 0, "due 1; due 0;", 1);
         Due.same("the last 'due' doesn't hold", 0, desk.sold(0, 1, 0));
-        Texts.law(desk, 0, "due 0; rest 1; due artist;", 2);
+        Texts.law(desk, 0, "due 0; rest 1; due artist = 1;", 2);
         Due.same("the last 'due' holds", 1, desk.sold(1, 1, 0));
         Due.same("the last 'due' holds not of the other", 0, desk.sold(0, 1, 0));
         Texts.law(desk, 0, "rest 1; least 1001; most 1; rest 5000; least 1000; most 400;", 3);

@@ -80,6 +80,9 @@ public final class ThingsTest {
         desk.work(0, 1, 1, 0, 1, 1);
         desk.sale(0, 0, 1, 100, 0, 1999, 0);
         Due.same("PRICE without a RATE", 1999, desk.sold(0, 0, 0));
+        desk.rate(0, 100, 3000);
+        Due.same("PRICE by the first RATE", 5997, desk.sold(0, 0, 0));
+        desk.rate(0, 100, 1000);
         desk.rate(1, 0, 5000);
         Due.same("PRICE by another LAND's RATE", 1999, desk.sold(0, 0, 0));
         desk.rate(0, 101, 2000);
@@ -158,6 +161,10 @@ public final class ThingsTest {
         desk.back(false, 2);
         Due.same("joins behind a SALE TAKEN BACK", NONE, desk.joins(1, 2, 1));
         Due.isMissing("nobody joins behind a SALE", () -> desk.joins(1, -1, 1));
+        SalePart first = desk(1, 3);
+        first.work(0, 1, 1, 0, 1, 1);
+        first.sale(0, 0, 1, 0, 0, 1, 0);
+        Due.same("joins behind the first FACT", NONE, first.joins(0, 1, 1));
     }
 
     private static void societies() {
