@@ -882,18 +882,23 @@ public final class SalePart {
         int from = NONE;
         private final int[] stepEnd = new int[MOST_CLAUSES];
         private final int[] stepParts = new int[MOST_CLAUSES];
-        private int stepCount = 0;
-        int rest = 0;
-        int least = 0;
-        int most = NONE;
-        int years = 70;
-        int claimEvenings = 300;
-        private int agreeing = 0;
+        private int stepCount;
+        int rest;
+        int least;
+        int most;
+        int years;
+        int claimEvenings;
+        private int agreeing;
         /** The last 'due', each sign behind what it joins; empty without a 'due'. */
         private final int[] due = new int[MOST_BYTES];
-        private int dueLength = 0;
+        private int dueLength;
         private final int[] pending = new int[MOST_PENDING];
 
+        Law() {
+            blank();
+        }
+
+        /** As without any text. */
         void blank() {
             stepCount = 0;
             rest = 0;
