@@ -369,9 +369,7 @@ public final class SalePart {
     public int hidden(int work, int i, int what, int k) throws NoSuchElementException, IllegalArgumentException {
         needWork(work);
         needWhat(what, 3);
-        if (i < NONE) {
-            throw new NoSuchElementException("there is none HIDDEN of such a number");
-        }
+        // Whether there is an i-th one, be i below NONE or too high, can be said only of what is known on an EVENING.
         needEvening(k);
         int found = 0;
         int ahead = books.handBehind(work, NONE, k);

@@ -10,6 +10,7 @@ public final class HandsTest {
         with();
         hidden();
         hiddenByNumber();
+        hiddenNowhere();
         Due.end();
     }
 
@@ -128,5 +129,36 @@ public final class HandsTest {
         Due.same("of like DAYS by number", 2, desk.hidden(0, NONE, 0, 0));
         gap(desk, 0, 0, 7, 7, 2, 0);
         gap(desk, 1, 0, 7, 7, 1, 2);
+    }
+
+    /** An EVENING that there isn't is told ahead of an i that there isn't, but behind a WORK or a what. */
+    private static void hiddenNowhere() {
+        SalePart desk = desk();
+        desk.work(0, 1, 1, 0, 1, 1);
+        desk.work(0, 1, 1, 0, 1, 1);
+        desk.sale(0, 1, 2, 7, 0, 5, 0);
+        desk.sale(0, 3, 4, 8, 0, 5, 0);
+        desk.evenings(2);
+        int[] none = {Integer.MIN_VALUE, -12804408, -3, -2, 1, 2, 200, Integer.MAX_VALUE};
+        int[] nights = {Integer.MIN_VALUE, -1, 3, Integer.MAX_VALUE};
+        for (int i : none) {
+            for (int k = 0; k <= 2; k++) {
+                int night = k;
+                Due.isMissing("hidden " + i + " on EVENING " + k, () -> desk.hidden(0, i, 0, night));
+                Due.isMissing("hidden " + i + " where nothing is told", () -> desk.hidden(1, i, 3, night));
+            }
+            for (int k : nights) {
+                Due.isRefused("hidden " + i + " on no EVENING " + k, () -> desk.hidden(0, i, 0, k));
+                Due.isRefused("hidden " + i + " of nothing on no EVENING " + k, () -> desk.hidden(1, i, 3, k));
+                Due.isMissing("hidden " + i + ", what 4, EVENING " + k, () -> desk.hidden(0, i, 4, k));
+                Due.isMissing("hidden " + i + ", what -1, EVENING " + k, () -> desk.hidden(0, i, -1, k));
+                Due.isMissing("hidden " + i + " of no WORK, EVENING " + k, () -> desk.hidden(2, i, 0, k));
+            }
+        }
+        for (int k : nights) {
+            Due.isRefused("how many on no EVENING " + k, () -> desk.hidden(0, NONE, 0, k));
+            Due.isRefused("the first on no EVENING " + k, () -> desk.hidden(0, 0, 0, k));
+        }
+        Due.same("how many", 1, desk.hidden(0, NONE, 0, 2));
     }
 }

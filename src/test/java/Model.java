@@ -368,9 +368,6 @@ final class Model {
     int hidden(int work, int i, int what, int k) {
         there(work, works.size());
         there(what, 4);
-        if (i < -1) {
-            throw new NoSuchElementException();
-        }
         evening(k);
         List<int[]> gaps = new ArrayList<>();
         Fact ahead = null;

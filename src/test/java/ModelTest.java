@@ -107,7 +107,11 @@ public final class ModelTest {
 
     private int evening() {
         int tonight = model.count(0);
-        return odd() ? tonight + 1 : random.nextInt(4) == 0 ? random.nextInt(tonight + 1) : tonight;
+        if (odd()) {
+            int[] none = {tonight + 1, -1, Integer.MAX_VALUE, Integer.MIN_VALUE};
+            return none[random.nextInt(4)];
+        }
+        return random.nextInt(4) == 0 ? random.nextInt(tonight + 1) : tonight;
     }
 
     private int saleNumber() {
@@ -259,7 +263,8 @@ public final class ModelTest {
             int[] a = {of(3), day(), k};
             same("with" + told(a), () -> desk.with(a[0], a[1], a[2]), () -> model.with(a[0], a[1], a[2]));
         } else if (draw < 23) {
-            int[] a = {of(3), random.nextInt(6) - 1, from(0, 3), k};
+            int i = random.nextInt(8) == 0 ? from(-3, 200) : random.nextInt(6) - 1;
+            int[] a = {of(3), i, from(0, 3), k};
             same("hidden" + told(a), () -> desk.hidden(a[0], a[1], a[2], a[3]),
                     () -> model.hidden(a[0], a[1], a[2], a[3]));
         } else {
