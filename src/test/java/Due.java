@@ -4,12 +4,23 @@ import java.util.NoSuchElementException;
 final class Due {
     private static int wrong = 0;
     private static int looked = 0;
+    private static String sentence = "";
+    private static int lookedAhead = -1;
 
     interface Call {
         long answer();
     }
 
     private Due() {
+    }
+
+    /** The sentence of the document by which all answers are due that are looked at until the next one. */
+    static void by(String of, String told) {
+        if (looked == lookedAhead) {
+            wrong("no answer was looked at");
+        }
+        lookedAhead = looked;
+        sentence = " (" + of + ": \"" + told + "\")";
     }
 
     static void same(String call, long want, long got) {
@@ -48,7 +59,7 @@ final class Due {
 
     static void wrong(String what) {
         wrong++;
-        System.out.println(what);
+        System.out.println(what + sentence);
     }
 
     static void end() {
