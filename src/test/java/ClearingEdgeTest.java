@@ -12,8 +12,10 @@ public final class ClearingEdgeTest {
         getsOfNobody();
         noSuchSociety();
         knownOnEvenings();
+        knownByAllElse();
         getsMoreThanAnInt();
         owesMoreThanAnInt();
+        netThatWraps();
         owesItself();
         owedWhole();
         owedByMandateAlone();
@@ -27,10 +29,7 @@ public final class ClearingEdgeTest {
 
     /** Five LANDS; in each a society and a PERSON of it, then a seller and a buyer; WORK i is of PERSON i. */
     private static SalePart desk(int fee) {
-        SalePart desk = new SalePart();
-        for (int i = 0; i < 5; i++) {
-            desk.land();
-        }
+        SalePart desk = Desks.of(5, 0);
         for (int i = 0; i < 5; i++) {
             desk.society(i, fee);
             desk.person(i, 0);
@@ -141,8 +140,7 @@ public final class ClearingEdgeTest {
             Due.same("NET of society " + one, 0, desk.net(one, 0, 0));
             Due.same("society " + one + " owes 4", 0, desk.owes(one, 4, 0, 0));
         }
-        SalePart two = new SalePart();
-        two.land();
+        SalePart two = Desks.of(1, 0);
         two.society(0, 0);
         two.society(0, 0);
         Due.same("NET of the second of two", 0, two.net(1, 0, 0));
@@ -169,44 +167,75 @@ public final class ClearingEdgeTest {
         }
     }
 
+    /** A SALE on EVENING 0; then its LAW, a MANDATE, a DEATH and an HEIR, each an EVENING later. */
+    private static void knownByAllElse() {
+        Due.by("Promises 20 to 23", "as known on EVENING k (the LAW, the MANDATE, the DEATH, the HEIR too)");
+        SalePart desk = desk(100);
+        desk.back(false, 1);
+        for (int law = 0; law < 5; law++) {
+            desk.back(true, law);
+        }
+        owe(desk, 0, 1, 1000, 500);
+        desk.evenings(1);
+        Texts.law(desk, 0, "rest 10000; agrees 1;", 0);
+        desk.evenings(1);
+        desk.fact(5, 0, 1, 3, 0);
+        desk.evenings(1);
+        desk.death(1, 0, 500);
+        desk.evenings(1);
+        desk.heir(1, 2, 1, 2);
+        desk.evenings(1);
+        desk.back(false, 7);
+        desk.evenings(1);
+        desk.back(false, 6);
+        int[][] due = {{0, 0, 0, 0}, {0, 0, 0, 0}, {900, 0, 1000, 0}, {0, 0, 0, 0}, {0, 450, 0, 500}, {900, 0, 1000, 0},
+            {0, 0, 0, 0}};
+        for (int k = 0; k <= 6; k++) {
+            String on = " on EVENING " + k;
+            Due.same("the ARTIST GETS" + on, due[k][0], desk.gets(1, 1, k));
+            Due.same("the HEIR GETS" + on, due[k][1], desk.gets(2, 1, k));
+            Due.same("owed for the ARTIST" + on, due[k][2], desk.owes(0, 3, 1, k));
+            Due.same("owed for the HEIR" + on, due[k][3], desk.owes(0, 2, 1, k));
+            Due.same("NET" + on, -due[k][2] - due[k][3], desk.net(0, 1, k));
+            Due.same("payments" + on, due[k][2] + due[k][3] > 0 ? 1 : 0, desk.payments(1, k));
+        }
+    }
+
+    /** With so many SALES of the highest PRICE, by which society 0 owes society 1: how much it owes. */
+    private static long oweHighest(SalePart desk, int many) {
+        desk.rate(0, 0, 99999);
+        for (int i = 0; i < many; i++) {
+            owe(desk, 0, 1, 20000000, i);
+        }
+        return 1999980000L * many;
+    }
+
     private static void getsMoreThanAnInt() {
         Due.by("Promise 20", "long gets(..): All that a PERSON GETS (more than an int holds)");
-        SalePart desk = desk(0);
-        desk.rate(0, 0, 99999);
-        long all = 0;
-        for (int i = 0; i < 190; i++) {
-            owe(desk, 0, 1, 20000000, i);
-            all += 1999980000;
-            if (i < 3 || i == 189) {
-                Due.same("GETS of " + (i + 1) + " SALES", all, desk.gets(1, 0, 0));
-            }
+        for (int many : new int[] {1, 2, 3, 190}) {
+            SalePart desk = desk(0);
+            long all = oweHighest(desk, many);
+            Due.same("GETS of " + many + " SALES", all, desk.gets(1, 0, 0));
+            Due.same("GETS of another one", 0, desk.gets(0, 0, 0));
         }
-        Due.same("GETS of another one", 0, desk.gets(0, 0, 0));
     }
 
     private static void owesMoreThanAnInt() {
         Due.by("Promises 21, 22", "long owes(..), long net(..) (more than an int holds, either way)");
-        SalePart desk = desk(300);
-        desk.rate(0, 0, 99999);
-        long all = 0;
-        for (int i = 0; i < 190; i++) {
-            owe(desk, 0, 1, 20000000, i);
-            all += 1999980000;
-            if (i < 3 || i == 189) {
-                Due.same("owes of " + (i + 1) + " SALES", all, desk.owes(0, 1, 0, 0));
-                Due.same("NET of " + (i + 1) + " SALES", all, desk.net(1, 0, 0));
-                Due.same("NET of " + (i + 1) + " SALES", -all, desk.net(0, 0, 0));
-                Due.same("payments of " + (i + 1) + " SALES", 1, desk.payments(0, 0));
-            }
+        for (int many : new int[] {1, 2, 3, 190}) {
+            SalePart desk = desk(300);
+            long all = oweHighest(desk, many);
+            Due.same("owes of " + many + " SALES", all, desk.owes(0, 1, 0, 0));
+            Due.same("NET of " + many + " SALES", all, desk.net(1, 0, 0));
+            Due.same("NET of " + many + " SALES", -all, desk.net(0, 0, 0));
+            Due.same("payments of " + many + " SALES", 1, desk.payments(0, 0));
         }
-        // NETS of 4294967296 and its half: as ints they would be 0 and wrap.
+    }
+
+    private static void netThatWraps() {
+        Due.by("Promise 23", "THE FEWEST payments for a YEAR (of NETS that would be 0 as ints)");
         SalePart wraps = desk(0);
-        wraps.rate(0, 0, 99999);
-        for (int i = 0; i < 2; i++) {
-            owe(wraps, 0, 1, 20000000, 0);
-        }
-        wraps.rate(2, 0, 1000);
-        long left = 4294967296L - 2L * 1999980000;
+        long left = 4294967296L - oweHighest(wraps, 2);
         while (left > 0) {
             int next = (int) Math.min(left, 20000000);
             owe(wraps, 2, 1, next, 0);
@@ -268,13 +297,7 @@ public final class ClearingEdgeTest {
 
     private static void withoutOneThatCollects() {
         Due.by("Terms, CLEARING", "without one that COLLECTS nothing is owed.");
-        SalePart desk = new SalePart();
-        desk.land();
-        desk.land();
-        for (int i = 0; i < 3; i++) {
-            desk.person(0, 0);
-        }
-        desk.work(0, 1, 1, 0, 1, 1);
+        SalePart desk = Desks.ofWork(2, 3);
         Texts.law(desk, 0, "rest 10000;", 0);
         desk.society(1, 100);
         desk.fact(5, 0, 0, 0, 0);

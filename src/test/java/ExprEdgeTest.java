@@ -22,6 +22,8 @@ public final class ExprEdgeTest {
         artist();
         held();
         from();
+        fromTheLast();
+        ofThatWorkAlone();
         again();
         joint();
         edition();
@@ -282,6 +284,53 @@ public final class ExprEdgeTest {
             desk.sale(0, 6, 7, 11, 0, 1, 0);
             isValue(desk, 1, "from", giver <= 2 ? 1 : 0);
         }
+    }
+
+    private static void fromTheLast() {
+        Due.by("Terms, VALUES", "held, from: (the last one known on a DAY ahead of this one's)");
+        SalePart desk = desk();
+        int sale = desk.sale(0, 3, 4, 1000, 0, 1, 0);
+        int[][] gifts = {{0, 500, 1, 500}, {5, 499, 1, 500}, {5, 500, 0, 500}, {0, 500, 1, 500}, {6, 501, 0, 499},
+            {0, 500, 0, 499}, {0, 999, 1, 1}, {6, 998, 1, 1}, {5, 1000, 1, 1}};
+        for (int[] gift : gifts) {
+            desk.fact(3, 0, gift[0], 3, gift[1]);
+            Due.same("held, given by " + gift[0] + " on " + gift[1], gift[3], desk.sold(sale, 6, 0));
+            Due.same("from, given by " + gift[0] + " on " + gift[1], gift[2], holds(desk, sale, "from") ? 1 : 0);
+        }
+        desk.back(false, 7);
+        Due.same("held without the last", 2, desk.sold(sale, 6, 0));
+        desk.fact(3, 0, 3, 5, 999);
+        Due.same("held, though given away", 2, desk.sold(sale, 6, 0));
+    }
+
+    /** What tells nothing of a WORK's seller: FACTS of other KINDS, other WORKS, other PERSONS. */
+    private static void ofThatWorkAlone() {
+        Due.by("Terms, VALUES", "held: .. got it by a SALE or GIFT; again: how many SALES of that WORK");
+        SalePart desk = desk();
+        desk.work(0, 1, 1, 0, 1, 1);
+        for (int i = 0; i < 4; i++) {
+            desk.society(0, 0);
+        }
+        int sale = desk.sale(0, 3, 4, 1000, 0, 1, 0);
+        desk.death(3, 900, 900);
+        desk.heir(0, 3, 1, 1);
+        desk.fact(5, 0, 0, 3, 900);
+        desk.fact(4, 0, 3, 3, 900);
+        desk.fact(3, 1, 0, 3, 900);
+        desk.sale(1, 0, 3, 900, 0, 1, 0);
+        Due.same("held by none of them", 99999, desk.sold(sale, 6, 0));
+        Due.same("again by none of them", 0, desk.sold(sale, 7, 0));
+        desk.fact(3, 0, 3, 5, 900);
+        Due.same("held by a GIFT of the seller", 99999, desk.sold(sale, 6, 0));
+        desk.fact(3, 0, 5, 6, 900);
+        Due.same("held by a GIFT among others", 99999, desk.sold(sale, 6, 0));
+        desk.sale(0, 0, 7, 900, 0, 1, 0);
+        Due.same("held by a SALE among others", 99999, desk.sold(sale, 6, 0));
+        Due.same("again by a SALE among others", 1, desk.sold(sale, 7, 0));
+        desk.fact(3, 0, 7, 3, 901);
+        Due.same("held by a GIFT to the seller", 99, desk.sold(sale, 6, 0));
+        Due.same("again by that", 1, desk.sold(sale, 7, 0));
+        isValue(desk, sale, "from", 0);
     }
 
     private static void again() {

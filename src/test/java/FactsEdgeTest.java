@@ -20,6 +20,7 @@ public final class FactsEdgeTest {
         heirOfItself();
         heirsOneWhole();
         heirsOfTwo();
+        heirsNextToWhole();
         heirsKnownTonight();
         heirOfNobody();
         saleNumbers();
@@ -45,13 +46,7 @@ public final class FactsEdgeTest {
 
     /** Two LANDS, six PERSONS of LAND 0, a WORK of PERSON 0, a society. */
     private static SalePart desk() {
-        SalePart desk = new SalePart();
-        desk.land();
-        desk.land();
-        for (int i = 0; i < 6; i++) {
-            desk.person(0, 0);
-        }
-        desk.work(0, 1, 1, 0, 1, 1);
+        SalePart desk = Desks.ofWork(2, 6);
         desk.society(0, 0);
         return desk;
     }
@@ -243,6 +238,37 @@ public final class FactsEdgeTest {
             if (most > 0) {
                 Due.same("what is left, in parts of " + other, 1, desk.heir(0, 2, most, other));
             }
+        }
+    }
+
+    /** The nearest to one whole that parts of 1 to 12 come to, in parts of 27720. */
+    private static void heirsNextToWhole() {
+        Due.by("Promise 10", "NONE: its HEIRS would be more than one whole (be it by ever so little)");
+        heirsTogether(-18, 1, 10, 2, 7, 4, 11, 1, 4);
+        heirsTogether(-16, 6, 11, 1, 5, 1, 7, 1, 9);
+        heirsTogether(-7, 1, 8, 2, 5, 4, 11, 1, 9);
+        heirsTogether(0, 1, 2, 1, 3, 1, 6);
+        heirsTogether(0, 1, 4, 5, 12, 1, 3);
+        heirsTogether(0, 3, 10, 1, 5, 1, 2);
+        heirsTogether(5, 1, 6, 5, 11, 1, 8, 1, 7, 1, 9);
+        heirsTogether(12, 1, 7, 1, 11, 2, 3, 1, 10);
+        heirsTogether(14, 3, 11, 5, 12, 1, 5, 1, 9);
+        heirsTogether(15, 1, 8, 3, 7, 4, 11, 1, 12);
+        heirsTogether(22, 1, 10, 3, 7, 2, 9, 1, 4);
+    }
+
+    private static void heirsTogether(int more, int... parts) {
+        for (int last = 0; last < parts.length; last += 2) {
+            SalePart desk = desk();
+            int told = 0;
+            for (int i = 0; i < parts.length; i += 2) {
+                if (i != last) {
+                    Due.same("one of some", told, desk.heir(0, 1 + i / 2, parts[i], parts[i + 1]));
+                    told++;
+                }
+            }
+            Due.same(parts[last] + " of " + parts[last + 1] + ", all then one whole and " + more + " of 27720",
+                    more > 0 ? NONE : told, desk.heir(0, 1, parts[last], parts[last + 1]));
         }
     }
 

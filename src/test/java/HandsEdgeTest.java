@@ -32,18 +32,11 @@ public final class HandsEdgeTest {
     }
 
     private static SalePart desk() {
-        SalePart desk = new SalePart();
-        desk.land();
-        for (int i = 0; i < 6; i++) {
-            desk.person(0, 0);
-        }
-        return desk;
+        return Desks.of(1, 6);
     }
 
     private static SalePart deskOfWork() {
-        SalePart desk = desk();
-        desk.work(0, 1, 1, 0, 1, 1);
-        return desk;
+        return Desks.ofWork(1, 6);
     }
 
     private static void withinBelowZero() {

@@ -44,6 +44,7 @@ public final class SaleEdgeTest {
         claimsInTime();
         claimsWithoutClause();
         claimKnown();
+        claimsEachOnItsEvening();
         claimBesideMandate();
         heldIsWhatNobodyGets();
         Due.end();
@@ -51,14 +52,7 @@ public final class SaleEdgeTest {
 
     /** Two LANDS, ten PERSONS of LAND 0, a WORK of PERSON 0. */
     private static SalePart desk() {
-        SalePart desk = new SalePart();
-        desk.land();
-        desk.land();
-        for (int i = 0; i < 10; i++) {
-            desk.person(0, 0);
-        }
-        desk.work(0, 1, 1, 0, 1, 1);
-        return desk;
+        return Desks.ofWork(2, 10);
     }
 
     /** With a SALE, FACT 0, on DAY 1000, of which PERSON 0 has a PART of so much. */
@@ -359,6 +353,11 @@ public final class SaleEdgeTest {
         part(100, 100, "rest 10000; most 100;");
         part(100, 100, "rest 10000; most 101;");
         part(100, 100, "most 99999999; rest 10000;");
+        part(49, 100, "rest 5000; most 49;");
+        part(50, 100, "rest 5000; most 50;");
+        part(50, 100, "rest 5000; most 51;");
+        part(50, 100, "rest 5000; most 100;");
+        part(50, 101, "rest 5000;");
         SalePart far = desk();
         Texts.law(far, 0, "rest 10000; most 99999999;", 0);
         far.rate(0, 0, 99999);
@@ -419,11 +418,7 @@ public final class SaleEdgeTest {
             {1, 9, 9, 19, 1, 9, 9}, {1, 9, 9, 20, 1, 9, 9}, {9, 1, 0, 9, 8, 0, 0}, {9, 1, 0, 10, 9, 1, 0},
             {9, 0, 0, 10, 10, 0, 0}, {1, 0, 0, 1, 1, 0, 0}, {9, 8, 7, 20000000, 7500000, 6666666, 5833333}};
         for (int[] one : due) {
-            SalePart desk = new SalePart();
-            desk.land();
-            for (int i = 0; i < 5; i++) {
-                desk.person(0, 0);
-            }
+            SalePart desk = Desks.of(1, 5);
             desk.work(0, one[0], 1, 0, 1, 1);
             for (int i = 1; i <= 2 && one[i] > 0; i++) {
                 desk.joins(0, i, one[i]);
@@ -653,17 +648,8 @@ public final class SaleEdgeTest {
     private static void inEightRounds() {
         Due.by("Terms, GOES ON", "in eight rounds");
         for (int dead = 0; dead <= 9; dead++) {
-            SalePart desk = desk(100);
-            for (int p = 0; p < dead; p++) {
-                desk.death(p, 0, 1000);
-                desk.heir(p, p + 1, 1, 1);
-            }
-            Due.same("what goes to who lives behind " + dead, dead <= 8 ? 100 : 0, desk.has(0, dead, 2, 0));
-            for (int p = 0; p < dead; p++) {
-                Due.same("what goes to " + p + " of " + dead, 0, desk.has(0, p, 2, 0));
-            }
-            desk.claim(dead, 0);
-            Due.same("what of it is HELD", dead <= 8 ? 0 : 100, desk.sold(0, 3, 0));
+            goesThrough(dead, 1);
+            goesThrough(dead, 100);
         }
         SalePart circle = desk(1024);
         circle.death(0, 0, 0);
@@ -675,6 +661,20 @@ public final class SaleEdgeTest {
         // Every other round 4 has half: 512, 256, 128, 64.
         Due.same("what leaves a circle in eight rounds", 960, circle.has(0, 4, 2, 0));
         Due.same("what is left in it is HELD", 64, circle.sold(0, 3, 0));
+    }
+
+    private static void goesThrough(int dead, int part) {
+        SalePart desk = desk(part);
+        for (int p = 0; p < dead; p++) {
+            desk.death(p, 0, 1000);
+            desk.heir(p, p + 1, 1, 1);
+        }
+        Due.same("what goes to who lives behind " + dead, dead <= 8 ? part : 0, desk.has(0, dead, 2, 0));
+        for (int p = 0; p < dead; p++) {
+            Due.same("what goes to " + p + " of " + dead, 0, desk.has(0, p, 2, 0));
+        }
+        desk.claim(dead, 0);
+        Due.same("what of it is HELD", dead <= 8 ? 0 : part, desk.sold(0, 3, 0));
     }
 
     private static void eachPartCutDown() {
@@ -751,6 +751,21 @@ public final class SaleEdgeTest {
             desk.death(3, 0, day);
             Due.same("an HEIR, DEAD from " + day, day <= 1000 ? 0 : 100, desk.has(0, 3, 2, 0));
             Due.same("the HEIR of an HEIR, DEAD from " + day, day <= 1000 ? 100 : 0, desk.has(0, 4, 2, 0));
+        }
+        SalePart beside = desk();
+        beside.joins(0, 3, 1);
+        Texts.law(beside, 0, "rest 10000;", 0);
+        beside.sale(0, 1, 2, 1000, 0, 200, 0);
+        beside.death(0, 0, 1000);
+        beside.death(5, 0, 1000);
+        beside.heir(0, 5, 1, 1);
+        beside.heir(5, 3, 1, 2);
+        beside.heir(5, 6, 1, 2);
+        beside.heir(3, 7, 1, 1);
+        beside.heir(6, 8, 1, 1);
+        int[] due = {0, 0, 0, 150, 0, 0, 50, 0, 0};
+        for (int p = 0; p < due.length; p++) {
+            Due.same("what goes to " + p + ", some live and have HEIRS", due[p], beside.has(0, p, 2, 0));
         }
     }
 
@@ -858,6 +873,32 @@ public final class SaleEdgeTest {
         }
     }
 
+    /** Each CLAIM on its own EVENING; by 'claim 3' those of EVENINGS 0 to 3 are in time. */
+    private static void claimsEachOnItsEvening() {
+        Due.by("Terms, SOCIETIES", "CLAIMS: of a PERSON on a SALE, told on an EVENING (each one's own)");
+        SalePart desk = desk();
+        desk.joins(0, 3, 1);
+        desk.joins(0, 4, 1);
+        Texts.law(desk, 0, "rest 10000; claim 3;", 0);
+        desk.sale(0, 1, 2, 1000, 0, 30, 0);
+        desk.sale(0, 1, 2, 1000, 0, 60, 0);
+        int[][] claims = {{3, 1}, {0, 0}, {4, 1}, {3, 0}, {0, 1}, {4, 0}};
+        for (int[] claim : claims) {
+            desk.claim(claim[0], claim[1]);
+            desk.evenings(1);
+        }
+        for (int k = 0; k <= 6; k++) {
+            int held = 0;
+            for (int i = 0; i < claims.length; i++) {
+                int part = claims[i][1] == 0 ? 10 : 20;
+                int due = i <= k && i <= 3 ? part : 0;
+                Due.same("GETS by CLAIM " + i + " on EVENING " + k, due, desk.has(claims[i][1], claims[i][0], 3, k));
+                held += part - due;
+            }
+            Due.same("HELD on EVENING " + k, held, desk.sold(0, 3, k) + desk.sold(1, 3, k));
+        }
+    }
+
     private static void claimBesideMandate() {
         Due.by("Terms, SOCIETIES", "by a CLAIM (without a MANDATE) all.");
         SalePart desk = desk(1000);
@@ -888,6 +929,7 @@ public final class SaleEdgeTest {
         desk.death(4, 0, 0);
         Due.same("of who is DEAD", 33, desk.sold(0, 3, 0));
         desk.heir(4, 5, 1, 2);
+        Due.same("of an HEIR without a CLAIM", 33, desk.sold(0, 3, 0));
         desk.claim(5, 0);
         Due.same("beside an HEIR's CLAIM", 17, desk.sold(0, 3, 0));
         desk.heir(4, 0, 1, 2);

@@ -31,6 +31,7 @@ public final class TextEdgeTest {
         wordsLongestRow();
         tooSoon();
         firstFault();
+        faultLeavesNothing();
         digits();
         zerosAhead();
         clausesAtMost();
@@ -48,15 +49,8 @@ public final class TextEdgeTest {
         Due.end();
     }
 
-    /** Two LANDS, four PERSONS: private, dealer, museum, private. */
     private static SalePart desk() {
-        SalePart desk = new SalePart();
-        desk.land();
-        desk.land();
-        for (int sort : new int[] {0, 1, 2, 0}) {
-            desk.person(0, sort);
-        }
-        return desk;
+        return Desks.of(2, 4);
     }
 
     private static void blanks(SalePart desk, int feeds) {
@@ -479,6 +473,36 @@ public final class TextEdgeTest {
         faulty(2, 4, "due 123456789 frog");
     }
 
+    /** What stood ahead of a FAULT tells nothing of the next LAW or TRY. */
+    private static void faultLeavesNothing() {
+        Due.by("Promise 16", "- 1 - its FAULT (no LAW is told by it)");
+        String[] clauses = {"due 0;", "step 50 10000;", "rest 1;", "least 101;", "most 7;", "years 0;", "claim 0;",
+            "agrees 1;", "due 1+(2*(3<price"};
+        for (String clause : clauses) {
+            SalePart desk = Desks.ofWork(2, 3);
+            desk.person(1, 0);
+            desk.joins(0, 3, 1);
+            desk.sale(0, 1, 2, 100, 0, 100, 0);
+            desk.death(0, 0, 100);
+            desk.heir(0, 1, 1, 1);
+            desk.evenings(1);
+            desk.claim(1, 0);
+            Due.same("law of " + clause + "!", -2, Texts.law(desk, 0, clause + "!", 0));
+            Due.same("no LAW of it", 0, desk.sold(0, 1, 1));
+            Due.same("attempt of " + clause + "!", 1, Texts.attempt(desk, 0, clause + "!", 0));
+            Due.same("the next attempt", 0, Texts.attempt(desk, 0, "step 20 5000; rest 10000;", 0));
+            Due.same("more by it", 45, desk.more(0));
+            Due.same("attempt of " + clause + "!", 1, Texts.attempt(desk, 0, clause + "!", 0));
+            Due.same("the next law", 0, Texts.law(desk, 0, "step 20 5000; rest 10000;", 0));
+            int[] due = {100, 1, 90, 0, NONE, 0, 99999, 0};
+            for (int what : new int[] {0, 1, 2, 3, 5}) {
+                Due.same("sold, what " + what + ", behind " + clause + "!", due[what], desk.sold(0, what, 1));
+            }
+            Due.same("what the HEIR GETS behind " + clause + "!", 45, desk.has(0, 1, 3, 1));
+            Due.same("what is one's of another LAND behind " + clause + "!", 0, desk.has(0, 3, 0, 1));
+        }
+    }
+
     /** A NUMBER where one can stand, of more and more digits. */
     private static void digits() {
         Due.by("Terms, FAULTS", "2: a NUMBER of 9 digits or more");
@@ -681,10 +705,7 @@ public final class TextEdgeTest {
     private static void noLand() {
         Due.by("Terms, FAULTS", "4 behind 'agrees' the number of a LAND that there isn't.");
         for (int lands = 1; lands <= 6; lands++) {
-            SalePart desk = new SalePart();
-            for (int i = 0; i < lands; i++) {
-                desk.land();
-            }
+            SalePart desk = Desks.of(lands, 0);
             int made = 0;
             for (int land : new int[] {0, lands - 1}) {
                 Due.same("agrees " + land + " of " + lands, made++, Texts.law(desk, 0, "agrees " + land + ";", 0));

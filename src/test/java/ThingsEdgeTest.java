@@ -36,19 +36,8 @@ public final class ThingsEdgeTest {
         countsFull();
         countOfAnother();
         refusedChangesNothing();
+        calls512();
         Due.end();
-    }
-
-    /** So many LANDS, and so many PERSONS of LAND 0. */
-    private static SalePart desk(int lands, int persons) {
-        SalePart desk = new SalePart();
-        for (int i = 0; i < lands; i++) {
-            desk.land();
-        }
-        for (int i = 0; i < persons; i++) {
-            desk.person(0, 0);
-        }
-        return desk;
     }
 
     private static void nothingThere() {
@@ -89,7 +78,7 @@ public final class ThingsEdgeTest {
 
     private static void objectsApart() {
         Due.by("Promise 1", "SalePart(): No LANDS, PERSONS, WORKS (nor what another object was told)");
-        SalePart told = desk(6, 30);
+        SalePart told = Desks.of(6, 30);
         told.work(0, 1, 1, 0, 1, 1);
         told.society(0, 0);
         told.sale(0, 1, 2, 0, 0, 1, 0);
@@ -125,7 +114,7 @@ public final class ThingsEdgeTest {
 
     private static void sixtyRates() {
         Due.by("Promise 3", "A RATE: true. False: there are 60");
-        SalePart desk = desk(2, 2);
+        SalePart desk = Desks.of(2, 2);
         desk.work(0, 1, 1, 0, 1, 1);
         desk.sale(0, 0, 1, 100, 0, 1000, 0);
         for (int i = 1; i <= 60; i++) {
@@ -140,7 +129,7 @@ public final class ThingsEdgeTest {
 
     private static void rateNumbers() {
         Due.by("Promise 3", "False: a number is not as told");
-        SalePart desk = desk(1, 0);
+        SalePart desk = Desks.of(1, 0);
         for (int day : new int[] {0, 1, 36498, 36499}) {
             Due.yes("on DAY " + day, desk.rate(0, day, 1000));
         }
@@ -159,7 +148,7 @@ public final class ThingsEdgeTest {
     private static void ratesOfDays() {
         Due.by("Terms, RATES", "for a DAY the one with the latest beginning that isn't behind it counts, of like ones that "
                 + "told last; 1000 without (whenever they were told)");
-        SalePart desk = desk(2, 2);
+        SalePart desk = Desks.of(2, 2);
         desk.work(0, 1, 1, 0, 1, 1);
         int[] days = {0, 99, 100, 101, 199, 200, 201, 36499};
         for (int day : days) {
@@ -191,7 +180,7 @@ public final class ThingsEdgeTest {
 
     private static void rateOfNoLand() {
         Due.by("Promise 3", "NoSuchElementException: no such LAND (as everywhere).");
-        SalePart desk = desk(2, 0);
+        SalePart desk = Desks.of(2, 0);
         Due.yes("LAND 0", desk.rate(0, 0, 1000));
         Due.yes("LAND 1", desk.rate(1, 0, 1000));
         for (int land : Whole.far(-1, 2)) {
@@ -213,7 +202,7 @@ public final class ThingsEdgeTest {
             {1001, 1, 1}, {1, 99999, 99}, {20000000, 1, 20000}, {20000000, 99999, 1999980000},
             {19999999, 99999, 1999979900}, {3, 333, 0}, {3, 334, 1}, {21475, 99999, 2147478}, {2147484, 1001, 2149631}};
         for (int[] one : due) {
-            SalePart desk = desk(1, 2);
+            SalePart desk = Desks.of(1, 2);
             desk.work(0, 1, 1, 0, 1, 1);
             desk.rate(0, 0, one[1]);
             desk.sale(0, 0, 1, 0, 0, one[0], 0);
@@ -223,7 +212,7 @@ public final class ThingsEdgeTest {
 
     private static void thirtyPersons() {
         Due.by("Promise 4", "A PERSON: the number. NONE: there are 30");
-        SalePart desk = desk(1, 0);
+        SalePart desk = Desks.of(1, 0);
         for (int i = 0; i < 30; i++) {
             int next = i;
             Due.isMissing("PERSON " + i + " ahead of it", () -> desk.more(next));
@@ -240,7 +229,7 @@ public final class ThingsEdgeTest {
 
     private static void sorts() {
         Due.by("Promise 4", "NONE: the sort is not as told.");
-        SalePart desk = desk(1, 0);
+        SalePart desk = Desks.of(1, 0);
         for (int sort : Whole.far(-2, -1, 3, 4)) {
             Due.same("sort " + sort, NONE, desk.person(0, sort));
         }
@@ -252,7 +241,7 @@ public final class ThingsEdgeTest {
 
     private static void personOfNoLand() {
         Due.by("Promise 4", "NoSuchElementException: no such LAND (as everywhere).");
-        SalePart desk = desk(3, 0);
+        SalePart desk = Desks.of(3, 0);
         for (int land : Whole.far(-1, 3)) {
             Due.isMissing("LAND " + land, () -> desk.person(land, 0));
             Due.isMissing("LAND " + land + ", no such sort", () -> desk.person(land, 3));
@@ -268,7 +257,7 @@ public final class ThingsEdgeTest {
 
     private static void thirtyWorks() {
         Due.by("Promise 5", "A WORK of one ARTIST: its number. NONE: there are 30");
-        SalePart desk = desk(1, 1);
+        SalePart desk = Desks.of(1, 1);
         for (int i = 0; i < 30; i++) {
             int next = i;
             Due.isMissing("WORK " + i + " ahead of it", () -> desk.with(next, 0, 0));
@@ -285,7 +274,7 @@ public final class ThingsEdgeTest {
         Due.by("Promise 5", "NONE: a number is not as told.");
         int[] least = {1, 1, 0, 1, 1};
         int[] most = {9, 99, 65535, 999, 999};
-        SalePart desk = desk(1, 1);
+        SalePart desk = Desks.of(1, 1);
         for (int i = 0; i < 5; i++) {
             for (int number : new int[] {least[i] - 1, most[i] + 1, LEAST, MOST}) {
                 Due.same("number " + i + " of " + number, NONE, workOf(desk, least, i, number));
@@ -310,7 +299,7 @@ public final class ThingsEdgeTest {
 
     private static void workOfNobody() {
         Due.by("Promise 5", "NoSuchElementException: no such PERSON (as everywhere).");
-        SalePart desk = desk(1, 4);
+        SalePart desk = Desks.of(1, 4);
         for (int artist : Whole.far(-1, 4)) {
             Due.isMissing("PERSON " + artist, () -> desk.work(artist, 1, 1, 0, 1, 1));
             Due.isMissing("PERSON " + artist + ", not as told", () -> desk.work(artist, 0, 0, -1, 0, 0));
@@ -324,7 +313,7 @@ public final class ThingsEdgeTest {
 
     private static void threeArtists() {
         Due.by("Promise 6", "One ARTIST more: how many it has. NONE: it has three");
-        SalePart desk = desk(1, 5);
+        SalePart desk = Desks.of(1, 5);
         desk.work(0, 1, 1, 0, 1, 1);
         Due.same("the second", 2, desk.joins(0, 1, 1));
         Due.same("the third", 3, desk.joins(0, 2, 1));
@@ -340,7 +329,7 @@ public final class ThingsEdgeTest {
 
     private static void joinsUnlike() {
         Due.by("Promise 6", "NONE: it has that one");
-        SalePart desk = desk(1, 3);
+        SalePart desk = Desks.of(1, 3);
         desk.work(0, 1, 1, 0, 1, 1);
         desk.work(1, 1, 1, 0, 1, 1);
         Due.same("the first again", NONE, desk.joins(0, 0, 2));
@@ -354,7 +343,7 @@ public final class ThingsEdgeTest {
 
     private static void joinsWeights() {
         Due.by("Promise 6", "NONE: the weight is not as told");
-        SalePart desk = desk(1, 5);
+        SalePart desk = Desks.of(1, 5);
         desk.work(0, 9, 1, 0, 1, 1);
         for (int weight : Whole.far(-1, 0, 10, 11)) {
             Due.same("weight " + weight, NONE, desk.joins(0, 1, weight));
@@ -371,7 +360,7 @@ public final class ThingsEdgeTest {
 
     private static void joinsBehindSale() {
         Due.by("Promise 6", "NONE: a SALE of it was told.");
-        SalePart desk = desk(1, 4);
+        SalePart desk = Desks.of(1, 4);
         desk.work(0, 1, 1, 0, 1, 1);
         desk.work(0, 1, 1, 0, 1, 1);
         desk.fact(3, 0, 0, 1, 0);
@@ -391,7 +380,7 @@ public final class ThingsEdgeTest {
 
     private static void joinsNothing() {
         Due.by("Promise 6", "NoSuchElementException: no such WORK (as everywhere).");
-        SalePart desk = desk(1, 2);
+        SalePart desk = Desks.of(1, 2);
         desk.work(0, 1, 1, 0, 1, 1);
         for (int n : Whole.far(-1, 1)) {
             Due.isMissing("WORK " + n, () -> desk.joins(n, 1, 1));
@@ -408,7 +397,7 @@ public final class ThingsEdgeTest {
 
     private static void fiveSocieties() {
         Due.by("Promise 7", "A SOCIETY: its number. NONE: there are 5");
-        SalePart desk = desk(1, 0);
+        SalePart desk = Desks.of(1, 0);
         for (int i = 0; i < 5; i++) {
             int next = i;
             Due.isMissing("society " + i + " ahead of it", () -> desk.net(next, 0, 0));
@@ -424,7 +413,7 @@ public final class ThingsEdgeTest {
 
     private static void fees() {
         Due.by("Promise 7", "NONE: the fee is not as told.");
-        SalePart desk = desk(1, 0);
+        SalePart desk = Desks.of(1, 0);
         for (int fee : Whole.far(-2, -1, 301, 302)) {
             Due.same("fee " + fee, NONE, desk.society(0, fee));
         }
@@ -436,7 +425,7 @@ public final class ThingsEdgeTest {
 
     private static void societyOfNoLand() {
         Due.by("Promise 7", "NoSuchElementException (no such LAND, as everywhere)");
-        SalePart desk = desk(2, 0);
+        SalePart desk = Desks.of(2, 0);
         for (int land : Whole.far(-1, 2)) {
             Due.isMissing("LAND " + land, () -> desk.society(land, 0));
             Due.isMissing("LAND " + land + ", no such fee", () -> desk.society(land, 301));
@@ -561,7 +550,7 @@ public final class ThingsEdgeTest {
 
     private static void countsFull() {
         Due.by("Promise 29", "0 TONIGHT .. 8 bytes of the tape (each at the most that it may be)");
-        SalePart desk = desk(7, 31);
+        SalePart desk = Desks.of(7, 31);
         for (int i = 0; i < 31; i++) {
             desk.work(0, 1, 1, 0, 1, 1);
         }
@@ -595,9 +584,26 @@ public final class ThingsEdgeTest {
         Due.same("count(8)", 0, desk.count(8));
     }
 
+    private static void calls512() {
+        Due.by("What it is", "An object is used for at most 512 calls after it has been made");
+        SalePart desk = Desks.ofWork(2, 4);
+        for (int i = 0; i < 200; i++) {
+            desk.sale(0, 1 + i % 2, 2 - i % 2, 5 * i, 0, 1000 + i, 0);
+        }
+        for (int i = 0; i < 200; i++) {
+            desk.claim(0, i);
+        }
+        Texts.law(desk, 0, "rest 10000;", 0);
+        for (int i = 0; i < 102; i++) {
+            Due.same("call " + (410 + i), 1000 + i, desk.has(i, 0, 3, 0));
+        }
+        // Of YEAR 1 are those of the numbers 73 to 145.
+        Due.same("call 512", 73 * 1000 + 73 * 109, desk.gets(0, 1, 0));
+    }
+
     private static void refusedChangesNothing() {
         Due.by("Promises 2 to 8", "NONE, false or an exception: nothing is told by it");
-        SalePart desk = desk(6, 30);
+        SalePart desk = Desks.of(6, 30);
         desk.work(0, 1, 1, 0, 1, 1);
         desk.society(0, 100);
         Texts.law(desk, 0, "rest 10000;", 0);

@@ -28,14 +28,8 @@ public final class TryEdgeTest {
 
     /** Two LANDS, five PERSONS of LAND 0, one of LAND 1, a WORK of PERSON 0. */
     private static SalePart desk() {
-        SalePart desk = new SalePart();
-        desk.land();
-        desk.land();
-        for (int i = 0; i < 5; i++) {
-            desk.person(0, 0);
-        }
+        SalePart desk = Desks.ofWork(2, 5);
         desk.person(1, 0);
-        desk.work(0, 1, 1, 0, 1, 1);
         return desk;
     }
 
