@@ -19,6 +19,8 @@ public final class ClearingEdgeTest {
         owesItself();
         owedWhole();
         owedByMandateAlone();
+        owedToNobody();
+        firstAndLastFact();
         withoutOneThatCollects();
         netOfAll();
         withoutSocieties();
@@ -293,6 +295,48 @@ public final class ClearingEdgeTest {
         dead.heir(1, 2, 1, 2);
         Due.same("owed for the HEIR of who is DEAD", 100, dead.owes(0, 2, 0, 0));
         Due.same("NET of the one that COLLECTS", -1100, dead.net(0, 0, 0));
+    }
+
+    /** What is HELD or goes by a CLAIM is owed to nobody, whichever society COLLECTS. */
+    private static void owedToNobody() {
+        Due.by("Terms, CLEARING", "what goes by MANDATE .. is owed (and nothing else)");
+        SalePart desk = Desks.ofWork(5, 3);
+        for (int land = 0; land < 5; land++) {
+            desk.society(land, 0);
+            Texts.law(desk, land, "rest 10000; agrees 0;", 0);
+            desk.sale(0, 1, 2, 0, land, 100, 0);
+            desk.sale(0, 1, 2, 0, land, 10, 0);
+            desk.claim(0, 2 * land);
+        }
+        Due.same("GETS by CLAIMS", 500, desk.gets(0, 0, 0));
+        for (int one = 0; one < 5; one++) {
+            for (int other = 0; other < 5; other++) {
+                Due.same(one + " owes " + other, 0, desk.owes(one, other, 0, 0));
+            }
+            Due.same("NET of " + one, 0, desk.net(one, 0, 0));
+        }
+        Due.same("payments", 0, desk.payments(0, 0));
+    }
+
+    private static void firstAndLastFact() {
+        Due.by("Terms, FACTS", "FACTS, numbered from 0 on, at most 200 (SALES of the first and the last number)");
+        SalePart desk = Desks.ofWork(2, 3);
+        desk.society(0, 0);
+        desk.society(1, 0);
+        Texts.law(desk, 0, "rest 10000;", 0);
+        desk.sale(0, 1, 2, 0, 0, 100, 0);
+        desk.fact(5, 0, 0, 1, 0);
+        Due.same("owed by FACT 0", 100, desk.owes(0, 1, 0, 0));
+        Due.same("GETS by FACT 0", 100, desk.gets(0, 0, 0));
+        for (int i = 2; i < 199; i++) {
+            desk.fact(4, 0, 1, 1, 0);
+        }
+        Due.same("the last FACT", 199, desk.sale(0, 1, 2, 0, 0, 20, 0));
+        Due.same("owed by FACTS 0 and 199", 120, desk.owes(0, 1, 0, 0));
+        Due.same("GETS by FACTS 0 and 199", 120, desk.gets(0, 0, 0));
+        desk.back(false, 0);
+        Due.same("owed by FACT 199", 20, desk.owes(0, 1, 0, 0));
+        Due.same("NET by FACT 199", 20, desk.net(1, 0, 0));
     }
 
     private static void withoutOneThatCollects() {

@@ -411,7 +411,8 @@ public final class ExprEdgeTest {
         Due.by("Terms, SALE", "Of others the last in the text counts ('due')");
         for (String[] one : new String[][] {{"due 0; due 1;", "1"}, {"due 1; due 0;", "0"}, {"due 1; rest 1; due 0;", "0"},
             {"due 0; due 0; due 5;", "1"}, {"due 1+2*3; due 0;", "0"}, {"due 0; due 1+2*3-7;", "0"},
-            {"due 0; rest 1; least 0; due 8 or 0;", "1"}, {"due 0;".repeat(15) + "due 1;", "1"}}) {
+            {"due 0; rest 1; least 0; due 8 or 0;", "1"},
+            {"due not 0; due 0;", "0"}, {"due not 1; due 1;", "1"}, {"due 5-5; due 5;", "1"}, {"due 1 or 1; due 0;", "0"}, {"due 0;".repeat(15) + "due 1;", "1"}}) {
             SalePart desk = desk();
             desk.sale(0, 3, 4, 1000, 0, 1, 0);
             Texts.law(desk, 0, one[0], 0);

@@ -34,6 +34,7 @@ public final class SaleEdgeTest {
         lawsOfLikeDays();
         collects();
         inEightRounds();
+        firstAndLastPerson();
         eachPartCutDown();
         allAtOnce();
         deadWithoutHeirs();
@@ -42,6 +43,7 @@ public final class SaleEdgeTest {
         mandateToldLast();
         fees();
         claimsInTime();
+        noClaim();
         claimsWithoutClause();
         claimKnown();
         claimsEachOnItsEvening();
@@ -661,6 +663,40 @@ public final class SaleEdgeTest {
         // Every other round 4 has half: 512, 256, 128, 64.
         Due.same("what leaves a circle in eight rounds", 960, circle.has(0, 4, 2, 0));
         Due.same("what is left in it is HELD", 64, circle.sold(0, 3, 0));
+        circle.claim(0, 0);
+        circle.claim(3, 0);
+        for (int dead = 0; dead <= 3; dead += 3) {
+            Due.same("what goes to " + dead + " who is left in it", 0, circle.has(0, dead, 2, 0));
+            Due.same("what " + dead + " GETS who is left in it", 0, circle.has(0, dead, 3, 0));
+        }
+        Due.same("what is HELD beside their CLAIMS", 64, circle.sold(0, 3, 0));
+    }
+
+    /** From PERSON 29 to 0 and from 0 to 29, while they live and when they are DEAD. */
+    private static void firstAndLastPerson() {
+        Due.by("Terms", "PERSONS, from 0 on, at most 30 (the first and the last as ARTISTS and as HEIRS)");
+        for (int artist = 0; artist <= 29; artist += 29) {
+            int heir = 29 - artist;
+            SalePart desk = Desks.of(1, 30);
+            desk.work(artist, 1, 1, 0, 1, 1);
+            Texts.law(desk, 0, "rest 10000; years 0;", 0);
+            desk.sale(0, 1, 2, 1000, 0, 90, 0);
+            desk.society(0, 0);
+            desk.heir(artist, heir, 1, 1);
+            desk.heir(heir, 14, 1, 1);
+            int[] persons = {artist, heir, 14};
+            for (int dead = 0; dead <= 2; dead++) {
+                for (int i = 0; i <= 2; i++) {
+                    Due.same("what goes to " + persons[i], i == dead ? 90 : 0, desk.has(0, persons[i], 2, 0));
+                }
+                desk.fact(5, 0, persons[dead], 0, 1000);
+                Due.same("what " + persons[dead] + " GETS", 90, desk.has(0, persons[dead], 3, 0));
+                Due.same("HELD", 0, desk.sold(0, 3, 0));
+                desk.death(persons[dead], 0, 1000);
+                Due.same("FOR the ARTIST", dead == 0 ? 0 : 1, desk.has(0, artist, 1, 0));
+                Texts.law(desk, 0, "rest 10000; years 70;", 0);
+            }
+        }
     }
 
     private static void goesThrough(int dead, int part) {
@@ -841,6 +877,19 @@ public final class SaleEdgeTest {
         far.evenings(999);
         far.claim(0, 0);
         Due.same("GETS on the last EVENING", 100, far.has(0, 0, 3, 999));
+    }
+
+    private static void noClaim() {
+        Due.by("Terms, SOCIETIES", "is HELD, if it has no MANDATE and no CLAIM in time (on any EVENING)");
+        SalePart desk = desk(100);
+        for (int evening : new int[] {1, 500, 998, 999}) {
+            desk.evenings(evening - desk.count(0));
+            int sale = desk.sale(0, 1, 2, 1000, 0, 70, 0);
+            Due.same("GETS on EVENING " + evening, 0, desk.has(0, 0, 3, evening));
+            Due.same("HELD on EVENING " + evening, 100, desk.sold(0, 3, evening));
+            Due.same("GETS of a SALE of EVENING " + evening, 0, desk.has(sale, 0, 3, evening));
+            Due.same("HELD of a SALE of EVENING " + evening, 70, desk.sold(sale, 3, evening));
+        }
     }
 
     private static void claimsWithoutClause() {

@@ -32,6 +32,7 @@ public final class TextEdgeTest {
         tooSoon();
         firstFault();
         faultLeavesNothing();
+        faultLeavesNoDue();
         digits();
         zerosAhead();
         clausesAtMost();
@@ -500,6 +501,20 @@ public final class TextEdgeTest {
             }
             Due.same("what the HEIR GETS behind " + clause + "!", 45, desk.has(0, 1, 3, 1));
             Due.same("what is one's of another LAND behind " + clause + "!", 0, desk.has(0, 3, 0, 1));
+        }
+    }
+
+    private static void faultLeavesNoDue() {
+        Due.by("Promise 16", "- 1 - its FAULT (nothing of its 'due' is told by it)");
+        for (String due : new String[] {"not price", "price-price", "0", "price and 0", "1+2*0", "(1)"}) {
+            SalePart desk = Desks.ofWork(1, 3);
+            desk.sale(0, 1, 2, 100, 0, 100, 0);
+            for (String next : new String[] {"price", "0", "1", "price<101"}) {
+                int told = desk.count(6);
+                Due.same("law of " + due, -2, Texts.law(desk, 0, "due " + due + "; !", 0));
+                Due.same("law of " + next, told, Texts.law(desk, 0, "due " + next + ";", 0));
+                Due.same("COUNTS by " + next + " behind " + due, next.equals("0") ? 0 : 1, desk.sold(0, 1, 0));
+            }
         }
     }
 
