@@ -392,5 +392,9 @@ public final class HandsEdgeTest {
             Due.same("from whom it comes at " + i, (ahead - 1) % 6, desk.hidden(0, i, 3, 0));
         }
         Due.isMissing("the 200th", () -> desk.hidden(0, 199, 0, 0));
+        for (int i = 0; i < 25; i++) {
+            desk.feed(0, 0, 0, 0, 0);
+        }
+        Due.same("how many beside a full tape", 199, desk.hidden(0, NONE, 0, 0));
     }
 }

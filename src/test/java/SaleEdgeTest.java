@@ -670,6 +670,9 @@ public final class SaleEdgeTest {
             Due.same("what " + dead + " GETS who is left in it", 0, circle.has(0, dead, 3, 0));
         }
         Due.same("what is HELD beside their CLAIMS", 64, circle.sold(0, 3, 0));
+        circle.work(5, 1, 1, 0, 1, 1);
+        int other = circle.sale(1, 1, 2, 1000, 0, 7, 0);
+        Due.same("what is HELD of another SALE, asked behind it", 7, circle.sold(other, 3, 0));
     }
 
     /** From PERSON 29 to 0 and from 0 to 29, while they live and when they are DEAD. */
