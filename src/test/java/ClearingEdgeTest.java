@@ -17,6 +17,8 @@ public final class ClearingEdgeTest {
         owesMoreThanAnInt();
         netThatWraps();
         owesItself();
+        owesAll();
+        owedToThirty();
         owedWhole();
         owedByMandateAlone();
         owedToNobody();
@@ -262,6 +264,48 @@ public final class ClearingEdgeTest {
             Due.same("GETS", 110, desk.gets(one, 0, 0));
         }
         Due.same("payments", 0, desk.payments(0, 0));
+    }
+
+    /** WORK i sold in each LAND, the MANDATE of PERSON i being to the society so many behind its own. */
+    private static void owesAll() {
+        Due.by("Promise 21", "What one society owes another one (whichever PERSONS and societies they are)");
+        for (int behind = 0; behind < 5; behind++) {
+            SalePart desk = desk(0);
+            for (int i = 0; i < 5; i++) {
+                desk.fact(5, 0, i, (i + behind) % 5, 0);
+                for (int land = 0; land < 5; land++) {
+                    owe(desk, land, i, 1 + 10 * land + 100 * i, 0);
+                }
+            }
+            for (int one = 0; one < 5; one++) {
+                long net = 0;
+                for (int other = 0; other < 5; other++) {
+                    int owed = 1 + 10 * one + 100 * ((other - behind + 5) % 5);
+                    Due.same(one + " owes " + other, one == other ? 0 : owed, desk.owes(one, other, 0, 0));
+                    net += 1 + 10 * other + 100 * ((one - behind + 5) % 5) - owed;
+                }
+                Due.same("NET of " + one, net, desk.net(one, 0, 0));
+            }
+        }
+    }
+
+    /** Each of 30 PERSONS by a SALE of its own WORK. */
+    private static void owedToThirty() {
+        Due.by("Terms", "PERSONS, from 0 on, at most 30 (what goes to each of them is owed)");
+        SalePart desk = Desks.of(1, 30);
+        desk.society(0, 0);
+        desk.society(0, 0);
+        Texts.law(desk, 0, "due 1; rest 10000;", 0);
+        int owed = 0;
+        for (int i = 0; i < 30; i++) {
+            desk.work(i, 1, 1, 0, 1, 1);
+            desk.fact(5, 0, i, 1, 0);
+            desk.sale(i, i, (i + 1) % 30, 0, 0, 1000 + i, 0);
+            owed += 1000 + i;
+            Due.same("owed to PERSONS 0 to " + i, owed, desk.owes(0, 1, 0, 0));
+            Due.same("NET by PERSONS 0 to " + i, -owed, desk.net(0, 0, 0));
+            Due.same("GETS " + i, 1000 + i, desk.gets(i, 0, 0));
+        }
     }
 
     private static void owedWhole() {

@@ -27,6 +27,7 @@ public final class HandsEdgeTest {
         hiddenBetween();
         hiddenByDaysAndNumbers();
         hiddenSeen();
+        hiddenAsKnown();
         hiddenAtMost();
         Due.end();
     }
@@ -375,6 +376,47 @@ public final class HandsEdgeTest {
         Due.same("given by that one", 1, desk.hidden(0, NONE, 0, 0));
         hand(desk, 4, 3, 2, 14);
         Due.same("SEEN with who was given it", 1, desk.hidden(0, NONE, 0, 0));
+    }
+
+    /** Of three, each with another one, one is told on EVENING 1 or TAKEN BACK then. */
+    private static void hiddenAsKnown() {
+        Due.by("Terms, HANDS", "HANDS of a WORK: its SALES, GIFTS, SEEN, as known");
+        for (int kind = 2; kind <= 4; kind++) {
+            for (int one = 0; one <= 2; one++) {
+                SalePart told = deskOfWork();
+                SalePart back = deskOfWork();
+                for (int i = 0; i <= 2; i++) {
+                    hand(back, kind, i, 3 + i, 10 + i);
+                    if (i != one) {
+                        hand(told, kind, i, 3 + i, 10 + i);
+                    }
+                }
+                told.evenings(1);
+                back.evenings(1);
+                hand(told, kind, one, 3 + one, 10 + one);
+                back.back(false, one);
+                String of = ", KIND " + kind + ", without " + one;
+                hiddenWithout(told, -1, 1, "told" + of);
+                hiddenWithout(told, one, 0, "not yet told" + of);
+                hiddenWithout(back, -1, 0, "not yet TAKEN BACK" + of);
+                hiddenWithout(back, one, 1, "TAKEN BACK" + of);
+            }
+        }
+    }
+
+    private static void hiddenWithout(SalePart desk, int without, int k, String told) {
+        int ahead = NONE;
+        int number = 0;
+        for (int i = 0; i <= 2; i++) {
+            if (i != without && ahead != NONE) {
+                Due.same("the DAY ahead, " + told, 10 + ahead, desk.hidden(0, number, 0, k));
+                Due.same("the DAY behind, " + told, 10 + i, desk.hidden(0, number, 1, k));
+                Due.same("from whom it comes, " + told, i, desk.hidden(0, number, 3, k));
+                number++;
+            }
+            ahead = i == without ? ahead : i;
+        }
+        Due.same("how many, " + told, number, desk.hidden(0, NONE, 0, k));
     }
 
     private static void hiddenAtMost() {

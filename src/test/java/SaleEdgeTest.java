@@ -32,9 +32,13 @@ public final class SaleEdgeTest {
         openIsWhole();
         lawsOfDays();
         lawsOfLikeDays();
+        withoutAnyOfTwelve();
         collects();
         inEightRounds();
         firstAndLastPerson();
+        eightRoundsOfThirty();
+        firstAndLastFacts();
+        firstAndLastEvening();
         eachPartCutDown();
         allAtOnce();
         deadWithoutHeirs();
@@ -44,6 +48,7 @@ public final class SaleEdgeTest {
         fees();
         claimsInTime();
         noClaim();
+        noneOfAllClaims();
         claimsWithoutClause();
         claimKnown();
         claimsEachOnItsEvening();
@@ -295,14 +300,25 @@ public final class SaleEdgeTest {
         part(19999999, 20000000, "step 1 0; step 99999999 10000;");
         part(0, 20000000, "step 20000000 0; step 20000001 10000;");
         part(1, 20000000, "step 19999999 0; step 20000000 10000;");
-        StringBuilder sixteen = new StringBuilder();
+        String others = sixteen("10000", "0");
+        part(7, 14, others);
+        part(8, 15, others);
+        part(8, 16, others);
+        part(8, 100, others);
+        String last = sixteen("0", "10000");
+        part(7, 14, last);
+        part(7, 15, last);
+        part(8, 16, last);
+        part(8, 100, last);
+    }
+
+    /** As many 'steps' as CLAUSES there may be, each up to 1 more. */
+    private static String sixteen(String first, String second) {
+        StringBuilder text = new StringBuilder();
         for (int i = 1; i <= 16; i++) {
-            sixteen.append("step ").append(i).append(i % 2 == 0 ? " 0;" : " 10000;");
+            text.append("step ").append(i).append(' ').append(i % 2 == 1 ? first : second).append(';');
         }
-        part(8, 16, sixteen.toString());
-        part(8, 15, sixteen.toString());
-        part(7, 14, sixteen.toString());
-        part(8, 100, sixteen.toString());
+        return text.toString();
     }
 
     private static void stepsAndRest() {
@@ -605,6 +621,19 @@ public final class SaleEdgeTest {
         }
     }
 
+    private static void withoutAnyOfTwelve() {
+        Due.by("Terms, SALE", "without any LAW nothing is DUE (where all twelve begin behind the DAY or are another LAND's)");
+        SalePart desk = desk();
+        desk.sale(0, 1, 2, 1000, 0, 10000, 0);
+        for (int i = 0; i < 12; i++) {
+            Texts.law(desk, i % 2, "due 1; rest 10000; agrees 0;", i % 2 == 0 ? 1001 : 0);
+            Due.same("the LAW beside LAW " + i, NONE, desk.sold(0, 5, 0));
+            Due.same("COUNTS beside LAW " + i, 0, desk.sold(0, 1, 0));
+            Due.same("PART beside LAW " + i, 0, desk.sold(0, 2, 0));
+            Due.same("the ARTIST's beside LAW " + i, 0, desk.has(0, 0, 0, 0));
+        }
+    }
+
     private static void lawsOfLikeDays() {
         Due.by("Terms, LAWS", "of like ones that told last, of those known.");
         SalePart desk = desk();
@@ -644,6 +673,13 @@ public final class SaleEdgeTest {
         Texts.law(desk, 0, "due 1;", 0);
         Due.same("it COUNTS", 1, desk.sold(0, 1, 0));
         Due.same("COLLECTS where it COUNTS", 1, desk.sold(0, 4, 0));
+        SalePart last = Desks.ofWork(2, 2);
+        last.sale(0, 0, 1, 100, 1, 10000, 0);
+        for (int i = 0; i < 5; i++) {
+            Due.same("COLLECTS in LAND 1, " + i + " societies in LAND 0", NONE, last.sold(0, 4, 0));
+            last.society(i < 4 ? 0 : 1, 0);
+        }
+        Due.same("COLLECTS in LAND 1, the last of the societies", 4, last.sold(0, 4, 0));
     }
 
     /** A chain of so many who are DEAD, each the whole HEIR of the one ahead: the next one lives. */
@@ -714,6 +750,86 @@ public final class SaleEdgeTest {
         }
         desk.claim(dead, 0);
         Due.same("what of it is HELD", dead <= 8 ? 0 : part, desk.sold(0, 3, 0));
+    }
+
+    /** The chain goes down from PERSON 29, through so many who are DEAD. */
+    private static void eightRoundsOfThirty() {
+        Due.by("Terms, GOES ON", "in eight rounds (of any of 30 PERSONS)");
+        for (int dead = 7; dead <= 10; dead++) {
+            SalePart desk = Desks.of(1, 30);
+            desk.work(29, 1, 1, 0, 1, 1);
+            Texts.law(desk, 0, "rest 10000;", 0);
+            desk.sale(0, 0, 1, 1000, 0, 100, 0);
+            for (int p = 29; p > 29 - dead; p--) {
+                desk.death(p, 0, 1000);
+                desk.heir(p, p - 1, 1, 1);
+            }
+            Due.same("what goes to who lives behind " + dead, dead <= 8 ? 100 : 0, desk.has(0, 29 - dead, 2, 0));
+            for (int p = 29; p > 29 - dead; p--) {
+                Due.same("what goes to " + p + ", " + dead + " are DEAD", 0, desk.has(0, p, 2, 0));
+            }
+            desk.claim(29 - dead, 0);
+            Due.same("what of it is HELD, " + dead + " are DEAD", dead <= 8 ? 0 : 100, desk.sold(0, 3, 0));
+        }
+    }
+
+    private static void firstAndLastFacts() {
+        Due.by("Terms, FACTS", "FACTS, numbered from 0 on, at most 200 (each KIND counts, whatever its number)");
+        for (int turn = 0; turn < 6; turn++) {
+            sixFacts(turn, 0, 0);
+            sixFacts(turn, 194, 0);
+        }
+    }
+
+    private static void firstAndLastEvening() {
+        Due.by("Terms", "EVENINGS from 0 to 999 (each KIND counts, on whichever it is told)");
+        for (int evening : new int[] {0, 1, 29, 30, 31, 998, 999}) {
+            sixFacts(0, 0, evening);
+        }
+    }
+
+    /** One FACT of each KIND, from the KIND turn on, behind so many others, told on an EVENING. */
+    private static void sixFacts(int turn, int first, int evening) {
+        SalePart desk = desk();
+        desk.evenings(evening);
+        desk.work(9, 1, 1, 0, 1, 1);
+        desk.society(1, 100);
+        Texts.law(desk, 0, "rest 10000;", 0);
+        for (int i = 0; i < first; i++) {
+            desk.fact(4, 1, 9, 0, 0);
+        }
+        int sale = NONE;
+        for (int i = 0; i < 6; i++) {
+            int kind = (i + turn) % 6;
+            Due.same("FACT of KIND " + kind, first + i, tellOfOne(desk, kind));
+            sale = kind == 2 ? first + i : sale;
+        }
+        String order = ", from KIND " + turn + " on, from FACT " + first + " on, on EVENING " + evening;
+        Due.same("'held'" + order, 100, desk.sold(sale, 6, evening));
+        Due.same("'again'" + order, 0, desk.sold(sale, 7, evening));
+        Due.same("what goes to the HEIR" + order, 50, desk.has(sale, 3, 2, evening));
+        Due.same("what the HEIR GETS" + order, 45, desk.has(sale, 3, 3, evening));
+        Due.same("HELD" + order, 50, desk.sold(sale, 3, evening));
+        Due.same("with whom it is" + order, 5, desk.with(0, 36499, evening));
+        Due.same("HIDDEN" + order, 1, desk.hidden(0, NONE, 0, evening));
+    }
+
+    /** PERSON 0 is DEAD, 3 its HEIR with a MANDATE; 1 was given the WORK, sold it to 2; it was SEEN with 5. */
+    private static int tellOfOne(SalePart desk, int kind) {
+        switch (kind) {
+            case 0:
+                return desk.death(0, 0, 1000);
+            case 1:
+                return desk.heir(0, 3, 1, 2);
+            case 2:
+                return desk.sale(0, 1, 2, 1000, 0, 100, 0);
+            case 3:
+                return desk.fact(3, 0, 0, 1, 900);
+            case 4:
+                return desk.fact(4, 0, 5, 0, 2000);
+            default:
+                return desk.fact(5, 0, 3, 0, 1000);
+        }
     }
 
     private static void eachPartCutDown() {
@@ -893,6 +1009,25 @@ public final class SaleEdgeTest {
             Due.same("GETS of a SALE of EVENING " + evening, 0, desk.has(sale, 0, 3, evening));
             Due.same("HELD of a SALE of EVENING " + evening, 70, desk.sold(sale, 3, evening));
         }
+    }
+
+    /** PERSONS 1 to 29 have CLAIMS on seven SALES, and the ARTIST, PERSON 0, on all but the last. */
+    private static void noneOfAllClaims() {
+        Due.by("Terms, SOCIETIES", "is HELD, if it has .. no CLAIM in time (of 200 on all SALES and by all PERSONS)");
+        SalePart desk = Desks.ofWork(1, 30);
+        Texts.law(desk, 0, "rest 10000;", 0);
+        int claims = 0;
+        for (int sale = 0; sale < 7; sale++) {
+            desk.sale(0, 1, 2, 1000, 0, 100, 0);
+            for (int person = sale < 6 ? 0 : 1; person < 30 && claims < 200; person++) {
+                Due.yes("CLAIM of " + person + " on " + sale, desk.claim(person, sale));
+                Due.same("GETS of " + sale, sale < 6 ? 100 : 0, desk.has(sale, 0, 3, 0));
+                claims++;
+            }
+        }
+        Due.same("CLAIMS", 200, desk.count(7));
+        Due.same("HELD of the last SALE", 100, desk.sold(6, 3, 0));
+        Due.same("HELD of the first SALE", 0, desk.sold(0, 3, 0));
     }
 
     private static void claimsWithoutClause() {

@@ -12,6 +12,7 @@ public final class ThingsEdgeTest {
         objectsApart();
         sixLands();
         sixtyRates();
+        withoutAnyOfSixty();
         rateNumbers();
         ratesOfDays();
         rateOfNoLand();
@@ -125,6 +126,17 @@ public final class ThingsEdgeTest {
         Due.no("a 61st", desk.rate(0, 100, 61));
         Due.no("a 61st of the other LAND", desk.rate(1, 100, 61));
         Due.same("PRICE behind it", 60, desk.sold(0, 0, 0));
+    }
+
+    private static void withoutAnyOfSixty() {
+        Due.by("Terms, RATES", "1000 without (where 60 begin behind the DAY or are another LAND's)");
+        SalePart desk = Desks.of(2, 2);
+        desk.work(0, 1, 1, 0, 1, 1);
+        desk.sale(0, 0, 1, 100, 0, 1000, 0);
+        for (int i = 1; i <= 60; i++) {
+            Due.yes("rate " + i, i % 2 == 0 ? desk.rate(0, 101, i) : desk.rate(1, 0, i));
+            Due.same("PRICE behind rate " + i, 1000, desk.sold(0, 0, 0));
+        }
     }
 
     private static void rateNumbers() {

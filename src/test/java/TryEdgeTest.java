@@ -153,7 +153,14 @@ public final class TryEdgeTest {
 
     private static void knownTonight() {
         Due.by("Terms, TRY", "as known TONIGHT");
+        knownFourBehind(0);
+        knownFourBehind(500);
+        knownFourBehind(995);
+    }
+
+    private static void knownFourBehind(int evening) {
         SalePart desk = desk();
+        desk.evenings(evening);
         for (int i = 0; i < 4; i++) {
             desk.sale(0, 1, 2, 100, 0, 1 << i, 0);
             desk.evenings(1);
